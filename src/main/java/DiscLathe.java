@@ -845,6 +845,8 @@ public final class DiscLathe {
         private final int[] turns = new int[MOST_STEPS];
         private final int[] tail = new int[MOST_STEPS];
         private final int[] apart = new int[MOST_STEPS];
+        // By STEP, as bits: STEPS with it of which no two are ever at work in one turn.
+        private final int[] queue = new int[MOST_STEPS];
         private final int[] trial = new int[MOST_STEPS];
         private final int[] soonest = new int[MOST_STEPS];
         // By how many STEPS are in: when each of the others may begin as far as those go.
@@ -861,6 +863,9 @@ public final class DiscLathe {
                 ready[0][k] = 0;
                 tail[k] = turns[k] + longestTailBehind(k);
             }
+            for (int k = 0; k < part.steps; k++) {
+                queue[k] = queueWith(k);
+            }
             isFound = false;
             length = 0;
             putIn(0, 0, NONE, 0);
@@ -874,6 +879,28 @@ public final class DiscLathe {
                 }
             }
             return longest;
+        }
+
+        private int queueWith(int k) {
+            int bits = 1 << k;
+            int common = neverWith(k);
+            for (int j = 0; j < part.steps; j++) {
+                if (hasBit(common, j)) {
+                    bits |= 1 << j;
+                    common &= neverWith(j);
+                }
+            }
+            return bits;
+        }
+
+        private int neverWith(int k) {
+            int bits = apart[k] | part.waits[k];
+            for (int j = k + 1; j < part.steps; j++) {
+                if (hasBit(part.waits[j], k)) {
+                    bits |= 1 << j;
+                }
+            }
+            return bits;
         }
 
         private void putIn(int depth, int placed, int last, int latest) {
@@ -917,8 +944,8 @@ public final class DiscLathe {
                     bound = Math.max(bound, soonest[k] + tail[k]);
                 }
             }
-            for (int t = 0; t < part.tools && bound <= length; t++) {
-                bound = Math.max(bound, toolBound(t, placed));
+            for (int k = 0; k < part.steps && bound <= length; k++) {
+                bound = Math.max(bound, queueBound(queue[k] & ~placed));
             }
             if (bound != length) {
                 return bound < length;
@@ -941,12 +968,12 @@ public final class DiscLathe {
             return soon;
         }
 
-        /** A TOOL does the STEPS that it still has one behind the other. */
-        private int toolBound(int t, int placed) {
+        /** STEPS of a queue are done one behind the other, whatever their row. */
+        private int queueBound(int waiting) {
             int first = NONE;
             int work = 0;
             for (int k = 0; k < part.steps; k++) {
-                if (part.toolOf[k] == t && !hasBit(placed, k)) {
+                if (hasBit(waiting, k)) {
                     first = first == NONE ? soonest[k] : Math.min(first, soonest[k]);
                     work += turns[k];
                 }
