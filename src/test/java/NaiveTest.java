@@ -217,7 +217,8 @@ public final class NaiveTest {
                 same("right " + told + " " + k + " " + due, shop.right(told, k, due), naive.right(told, k, due));
             }
         }
-        same("next", shop.next(), naive.next());
+        boolean isNextFirst = roll(0, 1) == 0;
+        if (isNextFirst) same("next", shop.next(), naive.next());
         for (int n = 0; n < 4; n++) {
             int known = roll(0, 12) == 0 ? roll(-1, 1001) : roll(0, stage + 1);
             same("fit " + known + " 0", shop.fit(known, 0), naive.fit(known, 0));
@@ -233,6 +234,7 @@ public final class NaiveTest {
             for (int what = -1; what < 7; what++) same("cause " + number + " " + what, shop.cause(number, what), naive.cause(number, what));
             same("tells " + number + " " + i + " " + t, shop.tells(number, i, t), naive.tells(number, i, t));
         }
+        if (!isNextFirst) same("next", shop.next(), naive.next());
         for (int what = -1; what < 6; what++) same("count " + what, shop.count(what), naive.count(what));
     }
 

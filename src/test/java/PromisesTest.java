@@ -119,7 +119,7 @@ public final class PromisesTest {
     private static void promise4() {
         Bench bench = Bench.with(ONE);
         is("4 gauge", bench.shop.gauge(7, 0, 0, 3), 0);
-        is("4 right", bench.shop.right(7, 0, 4), 1);
+        is("4 right", bench.shop.right(7, 0, 50), 1);
         is("4 keep", bench.shop.keep(0, 0, 0), 1);
         is("4 share", bench.shop.share(5000), bench.shop.file(0, 0, 2));
         is("4 shared", bench.shop.shared(0), 0);
@@ -134,7 +134,9 @@ public final class PromisesTest {
         is("4 right stays", bench.shop.count(2), 1);
         is("4 stage stays", bench.shop.gauge(6, 0, 0, 0), RANGE);
         is("4 shared stays", bench.shop.shared(0), 0);
+        is("4 fit", bench.shop.fit(999, 0), 0);
         is("4 part", bench.part(" \n" + ONE + "\n"), 2);
+        is("4 all fit", bench.shop.fit(999, 0), 1525);
         is("4 gauged none", bench.shop.count(1), 0);
         is("4 right none", bench.shop.count(2), 0);
         is("4 stage 0", bench.shop.gauge(0, 0, 0, 0), 0);
@@ -284,6 +286,12 @@ public final class PromisesTest {
         }
         is("8 below", bench.shop.held(-1), RANGE);
         is("8 beyond", bench.shop.held(5), RANGE);
+        // STEP 1 must go ahead of STEP 0, and STEP 2 waits for its TOOL, too: 1 0..2, 0 2..4, 3 0..3, 2 3..8.
+        Bench first = Bench.with("tool a 1 1; tool b 1 1; step a 2; step a 2; step b 5; step b 3; after 1 2;");
+        is("8 length", first.shop.told(4), 8);
+        is("8 begin", first.shop.begin(0), 2);
+        is("8 begin", first.shop.begin(2), 3);
+        is("8 by STEP 0 alone", first.shop.held(1), 1);
         Bench same = Bench.with("tool a 1 1; tool b 1 1; step a 1; step a 1; step b 3;");
         is("8 same tool", same.shop.held(0), 1);
         is("8 free", same.shop.held(1), 0);
@@ -850,6 +858,14 @@ public final class PromisesTest {
         is("35 below", below.shop.halt(13, 0), 35);
         is("35 below", below.shop.halt(14, 0), 38);
         is("35 below", below.shop.halt(15, 0), NONE);
+        Bench late = Bench.with(ONE);
+        is("35 gauge", late.shop.gauge(0, 9, 0, -3), 0);
+        is("35 gauge", late.shop.gauge(0, 10, 0, -3), 1);
+        is("35 gauge", late.shop.gauge(0, 39, 0, -14), 2);
+        // HEAT -2 and worn by 1 from part 10 on alone: -3 from 8 on, -4 from 13 on.
+        is("35 one", late.shop.fit(0, 0), 1);
+        is("35 ahead of wear", late.shop.halt(2, 0), 8);
+        is("35 behind wear", late.shop.halt(3, 0), 13);
         is("35 no steps", Bench.with("tool a 1 1;").shop.halt(0, 0), NONE);
     }
 
