@@ -50,6 +50,20 @@ final class Bench {
         return bench;
     }
 
+    /** A text that on a new shop is no part, with its fault; the next part has none. */
+    static void isFault(String text, int kind, int place) {
+        Bench bench = new Bench();
+        is("part " + text, bench.part(text), -1);
+        is("kind of " + text, bench.shop.fault(0), kind);
+        is("place of " + text, bench.shop.fault(1), place);
+        is("another number of a fault", bench.shop.fault(2), -1);
+        is("another number of a fault", bench.shop.fault(-1), -1);
+        is("tape behind a fault", bench.shop.count(3), 0);
+        is("part behind a fault", bench.part(""), 0);
+        is("kind without a fault", bench.shop.fault(0), 0);
+        is("place without a fault", bench.shop.fault(1), -1);
+    }
+
     int byRow(String row) {
         return tape(row).shop.byRow();
     }

@@ -152,16 +152,7 @@ public final class PromisesTest {
     }
 
     private static void fault(String text, int kind, int place) {
-        Bench bench = new Bench();
-        is("5 part " + text, bench.part(text), NONE);
-        is("5 kind of " + text, bench.shop.fault(0), kind);
-        is("5 place of " + text, bench.shop.fault(1), place);
-        is("5 other", bench.shop.fault(2), NONE);
-        is("5 other", bench.shop.fault(-1), NONE);
-        is("5 tape", bench.shop.count(3), 0);
-        is("5 part then", bench.part(""), 0);
-        is("5 kind then", bench.shop.fault(0), 0);
-        is("5 place then", bench.shop.fault(1), NONE);
+        Bench.isFault(text, kind, place);
     }
 
     private static void promise5Syntax() {
