@@ -27,6 +27,7 @@ public final class EdgesGaugedTest {
         knownAtEarlierStages();
         knownAtTheFirstAndLastStage();
         putRightAtTheSameStage();
+        gaugedAtAStageAskedFor();
         noneFit();
         noneFitTillPutRight();
         oneFits();
@@ -39,12 +40,15 @@ public final class EdgesGaugedTest {
         wornFromItsPartOn();
         surelyOfNumbers();
         surelyByAllSomeNone();
+        surelyDullByAnyGrade();
         nextWithoutParting();
+        nextOfParts0To19();
         nextLeastOfAlikeOnes();
         limitsOfHalt();
         haltAtTheFirstAndTheLastPart();
         haltBelow();
         haltByEarlierWear();
+        haltByADullStep();
         limitsOfBin();
         binsJustAtTheLimit();
         binByTheLeastCause();
@@ -301,6 +305,23 @@ public final class EdgesGaugedTest {
         is("ahead of it", bench.shop.fit(3, 0), ALL);
     }
 
+    private static void gaugedAtAStageAskedFor() {
+        Bench bench = Bench.with(ONE);
+        is("all", bench.shop.fit(4, 0), ALL);
+        is("gauge", bench.shop.gauge(4, 0, 0, 1), 0);
+        is("fewer", bench.shop.fit(4, 0), 25);
+        is("gauge", bench.shop.gauge(4, 39, 0, -14), 1);
+        // HEAT -2 and worn by 1 alone.
+        is("one", bench.shop.fit(4, 0), 1);
+        is("the latest stage", bench.shop.fit(999, 0), 1);
+        is("gauge", bench.shop.gauge(999, 39, 0, -13), 2);
+        is("none", bench.shop.fit(999, 0), 0);
+        is("one still", bench.shop.fit(998, 0), 1);
+        is("next", bench.shop.next(), NONE);
+        is("another part", bench.part(ONE), 2);
+        is("all", bench.shop.fit(999, 0), ALL);
+    }
+
     private static void noneFit() {
         for (int off : new int[] {-99, -1, 6, 99}) {
             Bench bench = Bench.with(ONE);
@@ -508,7 +529,46 @@ public final class EdgesGaugedTest {
         is("by none", dull.shop.surelyWorn(0, 0), 0);
     }
 
+    /** A STEP is dull by 1 as well as by 4: of part 39 it is off by 7, 15, 23, 31 more than the other of its TOOL. */
+    private static void surelyDullByAnyGrade() {
+        int[] offs = {7, 15, 23, 31};
+        for (int off : offs) {
+            Bench bench = Bench.with(ONE + "step a 1;");
+            is("gauge", bench.shop.gauge(0, 39, 0, 0), 0);
+            is("gauge", bench.shop.gauge(0, 39, 1, off), 1);
+            is("the one", bench.shop.surelyDull(1, 0), 1);
+            is("not the other", bench.shop.surelyDull(0, 0), 0);
+            is("sharp", bench.shop.gauge(1, 38, 1, 0), 2);
+            is("none fit", bench.shop.surelyDull(1, 1), NONE);
+        }
+    }
+
     // ---- promise 34
+
+    /** "NEXT: the part (0 .. 19) and STEP for which the most FIT .. that tell alike are fewest" */
+    private static void nextOfParts0To19() {
+        // Worn by 3 from part 0 or 1 on, in three ways each: part 0 alone parts them.
+        Bench first = Bench.with(ONE);
+        is("gauge", first.shop.gauge(0, 1, 0, 3), 0);
+        is("gauge", first.shop.gauge(0, 39, 0, 3), 1);
+        is("six fit", first.shop.fit(0, 0), 6);
+        is("part 0", first.shop.next(), 0);
+        // Nine kinds, each worn from 5 or 6 on, tell 11 .. 18 and 20 of part 19; of earlier parts some tell alike.
+        Bench last = Bench.with(ONE + "step a 1;");
+        is("gauge", last.shop.gauge(0, 6, 0, 7), 0);
+        is("gauge", last.shop.gauge(0, 4, 1, 0), 1);
+        is("18 fit", last.shop.fit(0, 0), 18);
+        is("part 19", last.shop.next(), 190);
+        is("part 19, asked again", last.shop.next(), 190);
+        // Of part 20 nine at most would tell alike, of part 6 ten.
+        Bench beyond = Bench.with(ONE);
+        is("gauge", beyond.shop.gauge(0, 2, 0, 1), 0);
+        is("gauge", beyond.shop.gauge(0, 13, 0, 12), 1);
+        is("38 fit", beyond.shop.fit(0, 0), 38);
+        is("not part 20", beyond.shop.next(), 60);
+        // Of all 1525 some 86 tell alike of part 19, 60 of part 39.
+        is("of all", Bench.with(ONE).shop.next(), 190);
+    }
 
     /** "NONE: none parts them." */
     private static void nextWithoutParting() {
@@ -598,6 +658,20 @@ public final class EdgesGaugedTest {
         is("more than 3", bench.shop.halt(3, 0), 13);
         is("more than 13", bench.shop.halt(13, 0), 38);
         is("more than 14", bench.shop.halt(14, 0), NONE);
+    }
+
+    private static void haltByADullStep() {
+        int[] offs = {7, 15, 23, 31};
+        int[] beyond6 = {35, 18, 12, 9};
+        for (int n = 0; n < 4; n++) {
+            Bench bench = Bench.with(ONE + "step a 1;");
+            is("gauge", bench.shop.gauge(0, 39, 0, offs[n]), 0);
+            is("gauge", bench.shop.gauge(0, 39, 1, 0), 1);
+            is("one fits", bench.shop.fit(0, 0), 1);
+            is("more than 6", bench.shop.halt(6, 0), beyond6[n]);
+            is("just not", bench.shop.halt(offs[n], 0), NONE);
+            is("just", bench.shop.halt(offs[n] - 1, 0) == NONE ? 1 : 0, 0);
+        }
     }
 
     // ---- promise 36
