@@ -1337,7 +1337,7 @@ public final class DiscLathe {
             long upper = (long) trainTeeth[0] * trainTeeth[2];
             long lower = (long) trainTeeth[1] * trainTeeth[3];
             long difference = upper * q - p * lower;
-            long common = greatestCommon(Math.abs(difference), lower * q);
+            long common = Math.max(1, greatestCommon(Math.abs(difference), lower * q));
             offUpper = difference / common;
             offLower = lower * q / common;
         }
@@ -1350,7 +1350,7 @@ public final class DiscLathe {
                 greater = rest;
                 rest = over;
             }
-            return Math.max(1, greater);
+            return greater;
         }
 
         int countExact(int upper, int lower) {
@@ -1404,11 +1404,13 @@ public final class DiscLathe {
         long changeByWear(int i, int n) {
             long upper = (long) trainTeeth[0] * trainTeeth[2];
             long lower = (long) trainTeeth[1] * trainTeeth[3];
-            long fewer = trainTeeth[i] - n;
-            boolean isUpper = i == 0 || i == 2;
-            long wornUpper = isUpper ? upper / trainTeeth[i] * fewer : upper;
-            long wornLower = isUpper ? lower : lower / trainTeeth[i] * fewer;
-            return (wornUpper * lower - upper * wornLower) * MILLION / (wornLower * lower);
+            // The WHEEL on the same side stands two places away; a TRAIN of two has 1 there.
+            long wornSide = (long) (trainTeeth[i] - n) * trainTeeth[(i + 2) % TWO_PAIRS];
+            boolean isUpper = i % 2 == 0;
+            long wornUpper = isUpper ? wornSide : upper;
+            long wornLower = isUpper ? lower : wornSide;
+            long below = wornLower * lower;
+            return below == 0 ? 0 : (wornUpper * lower - upper * wornLower) * MILLION / below;
         }
     }
 
@@ -1519,14 +1521,14 @@ public final class DiscLathe {
         }
 
         boolean load(int number) {
-            if (!isWithin(number, 0, part.causes() - 1)) {
-                return false;
-            }
             int dullWays = part.dullWays();
             int wornWays = part.wornWays();
+            if (!isWithin(number, 0, part.causes() - 1) || dullWays < 1 || wornWays < 1) {
+                return false;
+            }
             loadDull(number % dullWays);
             loadWorn(number / dullWays % wornWays);
-            heat = number / (dullWays * wornWays) - MOST_HEAT;
+            heat = number / dullWays / wornWays - MOST_HEAT;
             return true;
         }
 

@@ -108,6 +108,25 @@ public final class LanguageTest {
         while (fields.find()) rows++;
         Bench.is("arrays are made by constructors alone", arrays, rows);
         methodLengths(code);
+        divisors(code);
+    }
+
+    /** Rule 7: a divisor that isn't a constant is tested in the method that divides by it. */
+    private static void divisors(String code) {
+        int divisions = 0;
+        for (String body : code.split("\n {4,8}\\}\n")) {
+            Matcher found = Pattern.compile("[/%]=? *(\\(?)([\\w.]+)").matcher(body);
+            while (found.find()) {
+                divisions++;
+                String divisor = found.group(2);
+                boolean isConstant = divisor.matches("[1-9][0-9]*|[A-Z_]+");
+                String name = Pattern.quote(divisor);
+                boolean isTested = found.group(1).isEmpty() && Pattern.compile("\\b" + name + " (<=|>|!=|==) 0\\b"
+                        + "|\\b" + name + " < 1\\b|\\b" + name + " = Math\\.max\\(1,").matcher(body).find();
+                isTrue("a tested divisor: " + divisor, isConstant || isTested);
+            }
+        }
+        isTrue("divisions were found", divisions > 20);
     }
 
     private static void methodLengths(String code) {

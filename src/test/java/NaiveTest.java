@@ -174,7 +174,8 @@ public final class NaiveTest {
 
     private void wheels() {
         StringBuilder box = new StringBuilder(blanks(false));
-        for (int n = roll(0, 12) == 0 ? 11 : roll(0, 6); n > 0; n--) {
+        int most = roll(0, 9) == 0 ? 10 : 6;
+        for (int n = roll(0, 12) == 0 ? 11 : roll(0, most); n > 0; n--) {
             box.append(roll(0, 20) == 0 ? roll(5, 210) : roll(0, 1) == 0 ? 10 * roll(1, 9) : roll(10, 200));
             box.append(n == 1 ? "" : blanks(true));
         }
@@ -184,7 +185,7 @@ public final class NaiveTest {
         for (int n = 0; n < 4; n++) {
             int p = roll(0, 20) == 0 ? roll(0, 10001) : roll(1, roll(0, 1) == 0 ? 12 : 9999);
             int q = roll(0, 20) == 0 ? roll(0, 10001) : roll(1, roll(0, 1) == 0 ? 12 : 9999);
-            int without = roll(0, 2) == 0 ? roll(-2, 7) : -1;
+            int without = roll(0, 2) == 0 ? roll(-2, most + 1) : -1;
             same("train " + p + " " + q + " " + without, shop.train(p, q, without), naive.train(p, q, without));
             same("spare " + p + " " + q, shop.spare(p, q), naive.spare(p, q));
             for (int i = -1; i < 5; i++) {
@@ -202,7 +203,7 @@ public final class NaiveTest {
         int causes = naive.count(4);
         int truth = roll(0, causes - 1);
         int stage = 0;
-        for (int n = roll(0, 7); n > 0; n--) {
+        for (int n = roll(0, roll(0, 9) == 0 ? 45 : 7); n > 0; n--) {
             stage += roll(0, 2);
             int told = roll(0, 15) == 0 ? stage - 2 : stage;
             int i = roll(0, 20) == 0 ? roll(-1, 40) : roll(0, roll(0, 1) == 0 ? 12 : 39);
@@ -211,7 +212,7 @@ public final class NaiveTest {
             if (roll(0, 3) > 0) {
                 same("gauge " + told + " " + i + " " + s + " " + by, shop.gauge(told, i, s, by), naive.gauge(told, i, s, by));
             } else {
-                int k = roll(-1, 5);
+                int k = roll(-1, naive.gauged.size());
                 int[] one = k >= 0 && k < naive.gauged.size() ? naive.gauged.get(k) : null;
                 int due = one == null ? by : naive.tells(truth, one[1], one[2]);
                 same("right " + told + " " + k + " " + due, shop.right(told, k, due), naive.right(told, k, due));
